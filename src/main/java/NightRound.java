@@ -834,6 +834,13 @@ public final class NightRound {
             return cell >= 0 && cell < CELLS ? width[cell] : WIDE;
         }
 
+        boolean isTooLarge(int t, int cell) {
+            if (t < 0 || t >= MOST_THINGS || cell < 0 || cell >= CELLS) {
+                return false;
+            }
+            return sizes[t] > width[cell] && kinds[t] != PET;
+        }
+
         int kindOf(int t) {
             return t >= 0 && t < MOST_THINGS ? kinds[t] : 0;
         }
@@ -1007,14 +1014,25 @@ public final class NightRound {
             return bits;
         }
 
-        int ringsOf(int bits) {
-            int rings = 0;
+        int ofRing(int bits, int r) {
+            int inIt = 0;
             for (int w = 0; w < size && w < MOST_WANTS; w++) {
-                if ((bits >> w & 1) != 0) {
-                    rings |= 1 << ringOfCell(cells[w]);
+                if ((bits >> w & 1) != 0 && ringOfCell(cells[w]) == r) {
+                    inIt |= 1 << w;
                 }
             }
-            return rings;
+            return inIt;
+        }
+
+        /** The night behind which none of these can pay any more; 0 if there are none. */
+        int lastNightOf(int bits) {
+            int last = 0;
+            for (int w = 0; w < size && w < MOST_WANTS; w++) {
+                if ((bits >> w & 1) != 0) {
+                    last = Math.max(last, nights[w]);
+                }
+            }
+            return last;
         }
     }
 
@@ -1614,6 +1632,7 @@ public final class NightRound {
 
         private final int[] cells = new int[MOST_THINGS];
         private final int[] who = new int[CELLS];
+        private final int[] inFront = new int[MOST_THINGS];
         private final int[] pairs = new int[PAIRS];
         /* One without rings until the first start, so that there is always one. */
         private House house = new House();
@@ -1690,7 +1709,14 @@ public final class NightRound {
 
         void decide(int damped) {
             int comes = night + 1;
-            int stays = fixed | damped | tooLarge();
+            int stays = fixed | damped;
+            for (int t = 0; t < house.things && t < MOST_THINGS; t++) {
+                int to = house.nextOf(cells[t]);
+                inFront[t] = thingAt(to);
+                if (to != widened && house.isTooLarge(t, to)) {
+                    stays |= 1 << t;
+                }
+            }
             if (comes % PIANO_NIGHTS != 0) {
                 stays |= pianos;
             }
@@ -1701,26 +1727,14 @@ public final class NightRound {
             goers = (1 << house.things) - 1 & ~withThoseBehind(stays);
         }
 
-        private int tooLarge() {
-            int bits = 0;
-            for (int t = 0; t < house.things && t < MOST_THINGS; t++) {
-                int to = house.nextOf(cells[t]);
-                boolean fits = house.sizeOf(t) <= house.widthOf(to) || to == widened;
-                if (!fits && house.kindOf(t) != PET) {
-                    bits |= 1 << t;
-                }
-            }
-            return bits;
-        }
-
         private int withThoseBehind(int first) {
             int stays = first;
             boolean isMore = stays != 0;
             for (int turn = 0; turn < MOST_THINGS && isMore; turn++) {
                 isMore = false;
                 for (int t = 0; t < house.things && t < MOST_THINGS; t++) {
-                    int inFront = thingAt(house.nextOf(cells[t]));
-                    if ((stays >> t & 1) == 0 && inFront >= 0 && (stays >> inFront & 1) != 0) {
+                    int front = inFront[t];
+                    if (front >= 0 && (stays >> front & 1) != 0 && (stays >> t & 1) == 0) {
                         stays |= 1 << t;
                         isMore = true;
                     }
@@ -1842,22 +1856,14 @@ public final class NightRound {
         }
 
         int fewestForPlace(House house, Diary diary, int t, int cell, int nights) {
-            int free = freeIn(house, diary, 1 << ringOfCell(cell));
-            for (int count = 0; count <= Integer.bitCount(free); count++) {
-                for (int bits = 0; bits <= free; bits++) {
-                    if (isOfThese(bits, count, free)) {
-                        walk.start(house, diary, bits);
-                        walk.goOn(nights);
-                        if (walk.cellOf(t) == cell) {
-                            return bits;
-                        }
-                    }
-                }
-            }
-            return ABSENT;
+            return fewest(house, diary, t, t, cell, nights);
         }
 
         int fewestToMeet(House house, Diary diary, int t, int other, int nights) {
+            return fewest(house, diary, t, other, NONE, nights);
+        }
+
+        private int fewest(House house, Diary diary, int t, int other, int cell, int nights) {
             int rings = 1 << ringOfCell(diary.cellOf(t)) | 1 << ringOfCell(diary.cellOf(other));
             int free = freeIn(house, diary, rings);
             for (int count = 0; count <= Integer.bitCount(free); count++) {
@@ -1865,7 +1871,7 @@ public final class NightRound {
                     if (isOfThese(bits, count, free)) {
                         walk.start(house, diary, bits);
                         walk.goOn(nights);
-                        if (walk.atDoor(t, other)) {
+                        if (isReached(t, other, cell)) {
                             return bits;
                         }
                     }
@@ -1874,16 +1880,30 @@ public final class NightRound {
             return ABSENT;
         }
 
+        /* No thing meets itself: named twice, it is about its place. */
+        private boolean isReached(int t, int other, int cell) {
+            return t == other ? walk.cellOf(t) == cell : walk.atDoor(t, other);
+        }
+
+        /* What goes on in one ring changes nothing in another: each is looked at alone. */
         int bestFor(House house, Diary diary, int n) {
-            int within = house.wants.withinReach(diary, n);
-            int possible = house.wants.worthOf(within);
-            int free = freeIn(house, diary, house.wants.ringsOf(within));
+            int reach = house.wants.withinReach(diary, n);
+            int chosen = 0;
+            for (int r = 0; r < house.rings; r++) {
+                chosen |= bestInRing(house, diary, house.wants.ofRing(reach, r), r);
+            }
+            return chosen;
+        }
+
+        private int bestInRing(House house, Diary diary, int wanted, int r) {
+            int possible = house.wants.worthOf(wanted);
+            int free = freeIn(house, diary, 1 << r);
             int most = NONE;
             int chosen = 0;
             for (int count = 0; count <= Integer.bitCount(free); count++) {
                 for (int bits = 0; bits <= free && most < possible; bits++) {
                     if (isOfThese(bits, count, free)) {
-                        int paid = house.wants.worthOf(paidWithin(house, diary, bits, n));
+                        int paid = house.wants.worthOf(paidOf(wanted, house, diary, bits));
                         if (paid > most) {
                             most = paid;
                             chosen = bits;
@@ -1896,14 +1916,18 @@ public final class NightRound {
 
         /** Wants that pay within n nights if these are held more, as bits. */
         int paidWithin(House house, Diary diary, int heldMore, int n) {
+            return paidOf(house.wants.withinReach(diary, n), house, diary, heldMore);
+        }
+
+        private int paidOf(int wanted, House house, Diary diary, int heldMore) {
+            int last = house.wants.lastNightOf(wanted);
             int bits = 0;
             walk.start(house, diary, heldMore);
-            /* No want is for a later night, however long the nights go on. */
-            for (int k = 0; k < n && walk.nightNow() < LAST_WANT; k++) {
+            for (int k = 0; k < LAST_WANT && walk.nightNow() < last; k++) {
                 walk.pass(0);
                 bits |= house.wants.paidBy(walk);
             }
-            return bits;
+            return bits & wanted;
         }
     }
 

@@ -13,6 +13,7 @@ public final class HeldTest {
         heldWithOthersHeld();
         puts();
         heldToMeet();
+        fewestAheadOfBits();
         wrong();
         CHECKS.end();
     }
@@ -69,6 +70,16 @@ public final class HeldTest {
         CHECKS.given("putFor(0, 3, 60) of a held one", x, x.putFor(0, 3, 60), 3);
         CHECKS.given("putFor(0, 0, 5) of a held one", x, x.putFor(0, 0, 5), 0);
         CHECKS.given("putFor(0, 2, 9) where another is", x, x.putFor(0, 2, 9), -2);
+        NightRound other = Told.house(TEXT);
+        CHECKS.given("putFor(1, 2, 2) where the first thing is", other, other.putFor(1, 2, 2), -2);
+        CHECKS.given("putFor(1, 3, 0), none is left behind", other, other.putFor(1, 3, 0), 3);
+        other.hold(1);
+        CHECKS.given("putFor(0, 3, 5) past a held one", other, other.putFor(0, 3, 5), -2);
+        NightRound ring = Told.house("house cellar 1 damp 0;ring r plain places 4;thing a plain in r at 0 size 1;"
+            + "thing b plain in r at 3 size 1;thing c plain in r at 1 size 1;narrow r 3 by 0");
+        CHECKS.given("putFor(0, 2, 2), its own place is left", ring, ring.putFor(0, 2, 2), 2);
+        CHECKS.given("putFor(1, 2, 2), it is in front where it is put", ring, ring.putFor(1, 2, 2), 2);
+        CHECKS.given("putFor(1, 0, 2)", ring, ring.putFor(1, 0, 2), 3);
         NightRound moved = Told.house(TEXT);
         moved.put(0, 1, 3);
         CHECKS.given("putFor(0, 2, 0) in its ring NOW", moved, moved.putFor(0, 2, 0), 2);
@@ -86,6 +97,18 @@ public final class HeldTest {
         x.put(3, 1, 0);
         CHECKS.given("holdsToMeet(0, 3, 0)", x, x.holdsToMeet(0, 3, 0), 0);
         CHECKS.given("holdsToMeet(0, 3, 30) with a hold", x, x.holdsToMeet(0, 3, 30), 8);
+    }
+
+    /* c alone brings t to the first door in time, a and b together bring both to the second: 4, not 3. */
+    private static void fewestAheadOfBits() {
+        NightRound x = Told.house("house cellar 1 damp 0;ring r plain places 9;ring q plain places 9;door r 1 q 5;door r 3 q 3;"
+            + "thing a plain in r at 5 size 1;thing b plain in q at 4 size 1;thing c plain in r at 2 size 1;"
+            + "thing t plain in r at 0 size 1;thing u plain in q at 0 size 1");
+        CHECKS.given("holdsToMeet(3, 4, 5)", x, x.holdsToMeet(3, 4, 5), 4);
+        x.put(2, 0, 8);
+        CHECKS.given("holdsToMeet(3, 4, 5) without c ahead", x, x.holdsToMeet(3, 4, 5), -2);
+        x.put(0, 0, 4);
+        CHECKS.given("holdsToMeet(3, 4, 5) by two", x, x.holdsToMeet(3, 4, 5), 3);
     }
 
     private static void wrong() {

@@ -19,6 +19,7 @@ public final class HouseTest {
         manyFaults();
         lacksFaults();
         whatStays();
+        anotherHouse();
         whereIsGone();
         CHECKS.end();
     }
@@ -146,6 +147,11 @@ public final class HouseTest {
         fails("house cellar 1 damp 0;ring r plain places 2;ring rplain", 1, 55);
         fails("house cellar 1 damp 0;ring r" + (char) 233, 1, 28);
         fails("house cellar 1 damp 0;ring r" + (char) 0, 1, 28);
+        fails(RING + (char) 0, 1, 43);
+        fails(RING + " " + (char) 0 + ";", 1, 44);
+        fails("xouse cellar 1", 1, 0);
+        fails("house xellar 1", 1, 6);
+        fails("house cellax 1", 1, 6);
         fails("house cellar 1 damp 0;ring r`", 1, 28);
         fails("house cellar 1 damp 0;ring r{", 1, 28);
         fails("house cellar 1/", 1, 14);
@@ -155,6 +161,7 @@ public final class HouseTest {
     private static void nameFaults() {
         fails(START + "narrow x", 2, 73);
         fails(START + "narrow rr", 2, 73);
+        fails("house cellar 1 damp 0;ring ab plain places 2;ring ba plain places 2;narrow aa", 2, 75);
         fails(START + "door x", 2, 71);
         fails(START + "door r 0 x", 2, 75);
         fails(START + "thing x pet in x", 2, 81);
@@ -281,6 +288,27 @@ public final class HouseTest {
         CHECKS.due("thing(0, 2)", x.thing(0, 2), 2);
         CHECKS.due("thing(0, 4)", x.thing(0, 4), 0);
         CHECKS.refused("undo()", x, x.undo(), 6);
+    }
+
+    private static void anotherHouse() {
+        NightRound x = Told.house("house cellar 5 damp 9;ring r plain places 3;ring q attic places 4;narrow r 1 by 0;narrow q 0 by 9;"
+            + "door r 0 q 0;thing t plain in r at 0 size 1;thing u plain in q at 0 size 2;want t in r at 1 night 1 pays 1;lost 1 at 1");
+        Told.tell(x, "house cellar 5 damp 9;ring r plain places 3;lost 2 at 2;lost 1 at 2;thing v plain in r at 1 size 5");
+        CHECKS.refused("a fault", x, Told.tell(x, "house cellar 2 damp 3;ring a plain places 2;thing b pet in a at 0 size 1;want"), 4);
+        CHECKS.given("a small house behind larger ones", x, Told.tell(x, "house cellar 2 damp 3;ring a plain places 3;thing b pet in a at 0 size 1"), 1);
+        int[] sizes = {2, 3, 1, 3, 1, 0, 0, 0, 0, 0, 0, 0, 0};
+        for (int what = 0; what < sizes.length; what++) {
+            CHECKS.due("size(" + what + ")", x.size(what), sizes[what]);
+        }
+        CHECKS.given("narrow(0, 1)", x, x.narrow(0, 1), -2);
+        CHECKS.given("rules()", x, x.rules(), 572);
+        CHECKS.given("kept()", x, x.kept(), 0);
+        CHECKS.given("at(0, 1)", x, x.at(0, 1), -2);
+        CHECKS.given("ahead(0)", x, x.ahead(0), 1);
+        CHECKS.refused("ring(1, 0)", x, x.ring(1, 0), 1);
+        CHECKS.refused("thing(1, 0)", x, x.thing(1, 0), 1);
+        Told.tell(x, "house cellar 1 damp 0;ring r plain places 2;ring q plain places 2;thing t plain in r at 0 size 1;thing u plain in q at 0 size 1");
+        CHECKS.given("meeting() without the doors of before", x, x.meeting(), -2);
     }
 
     private static void whereIsGone() {

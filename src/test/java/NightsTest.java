@@ -61,16 +61,19 @@ public final class NightsTest {
 
     /* A piano in a cellar of five goes every 45th night: at its fifth place behind 180, a sixth comes too late. */
     private static void lastFirstNight() {
-        String text = "house cellar 5 damp 0;ring c cellar places 6;thing p piano in c at 0 size 1";
+        String text = "house cellar 5 damp 0;ring c cellar places 6;ring r plain places 2;door r 1 c 5;"
+            + "thing p piano in c at 0 size 1;thing b broken in r at 1 size 1";
         NightRound x = Told.house(text);
         CHECKS.given("when(0, 0, 4)", x, x.when(0, 0, 4), 180);
         CHECKS.given("when(0, 0, 5)", x, x.when(0, 0, 5), -2);
         for (int i = 0; i < 24; i++) {
             x.night();
         }
-        CHECKS.given("when(0, 0, 5) 25 nights ahead of the 200th", x, x.when(0, 0, 5), -2);
+        CHECKS.given("when(0, 0, 5) one night short", x, x.when(0, 0, 5), -2);
+        CHECKS.given("meets(0, 1) one night short", x, x.meets(0, 1), -2);
         x.night();
         CHECKS.given("when(0, 0, 5) at the 200th", x, x.when(0, 0, 5), 200);
+        CHECKS.given("meets(0, 1) at the 200th", x, x.meets(0, 1), 200);
     }
 
     private static void stillAndPeriod() {
@@ -117,6 +120,7 @@ public final class NightsTest {
         CHECKS.given("meetings(0, 2, 200)", x, x.meetings(0, 2, 200), 69);
         CHECKS.given("meetings(2, 0, 3)", x, x.meetings(2, 0, 3), 1);
         CHECKS.given("meetings(0, 2, 2)", x, x.meetings(0, 2, 2), 0);
+        CHECKS.given("meetings(1, 2, 0)", x, x.meetings(1, 2, 0), 0);
         CHECKS.given("meetings(1, 2, 5) of two that meet now alone", x, x.meetings(1, 2, 5), 0);
         CHECKS.refused("meetings(2, 2, 5)", x, x.meetings(2, 2, 5), 1);
         CHECKS.refused("meetings(2, 6, 5)", x, x.meetings(2, 6, 5), 1);
@@ -151,6 +155,8 @@ public final class NightsTest {
         NightRound alike = Told.house("house cellar 1 damp 0;ring r plain places 4;thing a plain in r at 0 size 5;"
             + "thing b plain in r at 2 size 5;narrow r 3 by 4;narrow r 1 by 4");
         CHECKS.given("toWiden() of alike", alike, alike.toWiden(), 1);
+        NightRound first = Told.house(CIRCLE + "narrow r 0 by 4");
+        CHECKS.given("toWiden() of the first place", first, first.toWiden(), 0);
         CHECKS.given("narrow() is as it was", alike, alike.narrow(0, 1), 4);
     }
 

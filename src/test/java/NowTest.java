@@ -99,6 +99,9 @@ public final class NowTest {
             CHECKS.given("blocked() behind " + k, x, x.blocked(), blocked[k]);
             CHECKS.given("night() " + (k + 1), x, x.night(), goes[k]);
         }
+        NightRound afresh = Told.house(TEXT);
+        afresh.put(3, 2, 1);
+        CHECKS.given("blocked() asked first", afresh, afresh.blocked(), 8);
         NightRound held = Told.house(TEXT);
         held.hold(0);
         CHECKS.given("goes() with one held", held, held.goes(), 8);

@@ -13,6 +13,7 @@ public final class WantsTest {
         bestHeld();
         behindNights();
         likeOnes();
+        fewestAheadOfBits();
         lastNights();
         wrong();
         CHECKS.end();
@@ -76,6 +77,16 @@ public final class WantsTest {
         CHECKS.given("bestPays(4)", x, x.bestPays(4), 2);
         x.put(0, 0, 5);
         CHECKS.given("best(4) with a ahead of none", x, x.best(4), 2);
+    }
+
+    /* a and b together pay as much as c alone, and no others pay more: 4, not 3. */
+    private static void fewestAheadOfBits() {
+        NightRound x = Told.house("house cellar 1 damp 0;ring r plain places 9;thing a plain in r at 5 size 1;"
+            + "thing b plain in r at 8 size 1;thing c plain in r at 2 size 1;thing t plain in r at 0 size 1;thing u plain in r at 6 size 1;"
+            + "want t in r at 3 night 5 pays 5;want u in r at 7 night 5 pays 5;want t in r at 1 night 5 pays 5;want u in r at 8 night 5 pays 5");
+        CHECKS.given("best(5)", x, x.best(5), 4);
+        CHECKS.given("bestPays(5)", x, x.bestPays(5), 10);
+        CHECKS.given("best(4)", x, x.best(4), 0);
     }
 
     private static void lastNights() {
