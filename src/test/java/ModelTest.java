@@ -1,24 +1,19 @@
-import java.lang.reflect.InvocationTargetException;
 import java.lang.reflect.Method;
 import java.lang.reflect.Modifier;
 import java.util.ArrayList;
 import java.util.Arrays;
 import java.util.Comparator;
-import java.util.HashMap;
 import java.util.List;
-import java.util.Map;
 import java.util.Random;
 
 /** Runs of calls by numbers that are always the same, on the class and on the model: all promises. */
 public final class ModelTest {
     private static final Checks CHECKS = new Checks("ModelTest");
     private static final String[] ACTS = {"hold", "let", "put", "night", "night", "undo", "image", "back"};
-    private static final Map<String, Method> MODEL = new HashMap<>();
     private static final List<Method> FACE = new ArrayList<>();
 
     private final Random random;
-    private final NightRound x = new NightRound();
-    private final Model model = new Model();
+    private final Pair pair = new Pair();
     private final List<String> calls = new ArrayList<>();
 
     private ModelTest(long seed) {
@@ -31,7 +26,6 @@ public final class ModelTest {
         for (Method m : NightRound.class.getDeclaredMethods()) {
             if (Modifier.isPublic(m.getModifiers())) {
                 FACE.add(m);
-                MODEL.put(m.getName(), Model.class.getDeclaredMethod(m.getName(), m.getParameterTypes()));
             }
         }
         FACE.sort(Comparator.comparing(Method::getName));
@@ -74,18 +68,7 @@ public final class ModelTest {
 
     private void tell(String text) throws ReflectiveOperationException {
         if (text.length() <= 900) {
-            Told.feed(x, text);
-            for (int from = 0; from < text.length(); from += 20) {
-                Object[] five = new Object[5];
-                for (int i = 0; i < 5; i++) {
-                    int number = 0;
-                    for (int b = from + 4 * i; b < from + 4 * i + 4; b++) {
-                        number = number << 8 | (b < text.length() ? text.charAt(b) : ' ');
-                    }
-                    five[i] = number;
-                }
-                MODEL.get("feed").invoke(model, five);
-            }
+            pair.feed(text);
             calls.add(text);
             same("house", text.length());
             same("fault");
@@ -139,12 +122,12 @@ public final class ModelTest {
     }
 
     private int argument(String name, int i) {
-        int thing = wrongOr(0, Math.max(0, model.sizesNow().get("things") - 1));
-        int ring = wrongOr(0, Math.max(0, model.sizesNow().get("rings") - 1));
+        int thing = wrongOr(0, Math.max(0, pair.model.sizesNow().get("things") - 1));
+        int ring = wrongOr(0, Math.max(0, pair.model.sizesNow().get("rings") - 1));
         int place = wrongOr(0, 3 + up(5));
         switch (name + i) {
             case "ring0": case "at0": case "narrow0": case "when1": case "holds1": case "put1":
-                return up(3) > 0 && name.matches("when|holds") ? Math.max(0, model.thing(0, 1)) : ring;
+                return up(3) > 0 && name.matches("when|holds") ? Math.max(0, pair.model.thing(0, 1)) : ring;
             case "ring1": case "thing1":
                 return wrongOr(0, 4);
             case "at1": case "narrow1": case "when2": case "holds2": case "put2": case "putFor1": case "dampWhen1":
@@ -174,21 +157,10 @@ public final class ModelTest {
         }
     }
 
-    private static Object answer(Method m, Object of, Object[] arguments) throws ReflectiveOperationException {
-        try {
-            Object answer = m.invoke(of, arguments);
-            return answer instanceof Boolean ? (Boolean) answer ? 1 : 0 : answer;
-        } catch (InvocationTargetException e) {
-            return e.getCause().getClass().getName();
-        }
-    }
-
     private void compare(Method m, Object[] arguments) throws ReflectiveOperationException {
-        Object due = answer(MODEL.get(m.getName()), model, arguments);
-        Object got = answer(m, x, arguments);
-        boolean same = due.equals(got) && x.trouble() == model.trouble() && x.where() == model.where();
-        calls.add(m.getName() + Arrays.toString(arguments) + " = " + due);
-        CHECKS.due(String.join("\n  ", calls.subList(same ? calls.size() - 1 : 0, calls.size())) + "\n  but " + got + ", trouble "
-            + x.trouble() + " due " + model.trouble(), same, true);
+        String different = pair.compare(m, arguments);
+        calls.add(m.getName() + Arrays.toString(arguments) + " = " + pair.latestDue());
+        boolean same = different.isEmpty();
+        CHECKS.due(String.join("\n  ", calls.subList(same ? calls.size() - 1 : 0, calls.size())) + "\n " + different, same, true);
     }
 }
