@@ -181,6 +181,17 @@ public final class ActsEdgesTest {
         CHECKS.given("put(1, 0, 8)", x, x.put(1, 0, 8));
         CHECKS.due("size(9): by day", x.size(9), 0);
         CHECKS.due("size(10)", x.size(10), 4);
+        NightRound rings = Told.house("house cellar 2 damp 0;ring r plain places 9;ring q cellar places 9;ring o attic places 9;"
+            + "thing a plain in q at 0 size 1");
+        CHECKS.due("goes() in a cellar on night 1", rings.goes(), 0);
+        rings.put(0, 0, 8);
+        CHECKS.due("goes(): put in a plain ring", rings.goes(), 1);
+        CHECKS.due("behind(0, 1)", rings.behind(0, 1), 0);
+        rings.put(0, 2, 0);
+        CHECKS.due("behind(0, 1): put in an attic", rings.behind(0, 1), 28);
+        rings.put(0, 1, 8);
+        CHECKS.due("goes(): put in a cellar again", rings.goes(), 0);
+        CHECKS.due("behind(0, 2)", rings.behind(0, 2), 10);
     }
 
     private static void putsRefused() {

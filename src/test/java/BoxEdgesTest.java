@@ -12,6 +12,7 @@ public final class BoxEdgesTest {
         foundAndLost();
         sure();
         looks();
+        looksUpTo99();
         counts();
         rows();
         howManyThere();
@@ -96,6 +97,20 @@ public final class BoxEdgesTest {
         CHECKS.given("rules()", even, even.rules(), 5);
         CHECKS.given("look(): the lesser night", even, even.look(), 203);
         CHECKS.given("lookLeaves()", even, even.lookLeaves(), 3);
+    }
+
+    /* Worked out apart from the class: of 36 rules 18 are at 8 on night 99 first; of 37 on night 100 less are left than ever before. */
+    private static void looksUpTo99() {
+        CHECKS.term("LOOK: the night (0 .. 99), the place (0 .. 11)");
+        NightRound last = box("lost 52 at 3", "found 0 at 8");
+        CHECKS.given("look(): the last night", last, last.look(), 9908);
+        CHECKS.given("lookLeaves()", last, last.lookLeaves(), 18);
+        NightRound late = box("lost 82 at 10", "found 1 at 8");
+        CHECKS.given("look(): night 100 is too late", late, late.look(), 3708);
+        CHECKS.given("lookLeaves()", late, late.lookLeaves(), 20);
+        Told.tell(late, HOUSE + ";found 10 at 10;found 9 at 9");
+        CHECKS.given("look() of a new house", late, late.look(), 1100);
+        CHECKS.given("lookLeaves() of a new house", late, late.lookLeaves(), 1);
     }
 
     private static void counts() {

@@ -78,6 +78,21 @@ public final class HeldEdgesTest {
         CHECKS.given("putFor(3, 0, 60): another thing's place", x, x.putFor(3, 0, 60), -2);
         CHECKS.given("putFor(0, 1, 60): behind the held one", x, x.putFor(0, 1, 60), 0);
         CHECKS.due("thing(3, 2): only thought of", x.thing(3, 2), 2);
+        putAway();
+    }
+
+    /* Where it is put it keeps those behind it, where it was it keeps none. */
+    private static void putAway() {
+        NightRound x = Told.house("house cellar 1 damp 0;ring r plain places 4;thing a plain in r at 0 size 1;"
+            + "thing b plain in r at 3 size 1;thing c plain in r at 1 size 1;narrow r 3 by 0");
+        CHECKS.given("putFor(0, 2, 2): its own place is left", x, x.putFor(0, 2, 2), 2);
+        CHECKS.given("putFor(1, 2, 2): it is in front where it is put", x, x.putFor(1, 2, 2), 2);
+        CHECKS.given("putFor(1, 0, 2)", x, x.putFor(1, 0, 2), 3);
+        /* Behind the piano the large one can't get ahead of it, to where it would be in its way. */
+        NightRound piano = Told.house("house cellar 1 damp 0;ring r plain places 9;narrow r 6 by 4;thing a piano in r at 0 size 1;thing b plain in r at 3 size 5");
+        CHECKS.given("putFor(0, 5, 9): it keeps the one behind it", piano, piano.putFor(0, 5, 9), 4);
+        NightRound few = Told.house(HOUSE + "ring r plain places 3;thing a plain in r at 0 size 1;thing b broken in r at 2 size 1");
+        CHECKS.given("putFor(0, 0, 1): there is no place behind the last one", few, few.putFor(0, 0, 1), -2);
     }
 
     /* In a cellar of five a thing has six steps in 30 nights. */

@@ -14,6 +14,7 @@ public final class HouseEdgesTest {
         answersOfHouse();
         partOfTape();
         afresh();
+        nothingOfBefore();
         refusedByNumber();
         refusedByFault();
         faults();
@@ -95,6 +96,12 @@ public final class HouseEdgesTest {
         Told.feed(x, HOUSE + "0");
         CHECKS.given("house: a WHOLE cut off within bounds", x, x.house(HOUSE.length()), 1);
         CHECKS.due("thing(0, 3)", x.thing(0, 3), 1);
+        Told.feed(x, "house cellars");
+        CHECKS.refused("house: a WORD cut off", x, x.house(12), 4);
+        CHECKS.due("where(): the end behind cellar", x.where(), 12);
+        Told.feed(x, HOUSE + ";rings");
+        CHECKS.refused("house: a WORD cut off", x, x.house(HOUSE.length() + 5), 4);
+        CHECKS.due("where(): the end behind ring", x.where(), HOUSE.length() + 5);
         CHECKS.refused("house(0): an empty text", x, x.house(0), 4);
         CHECKS.due("fault()", x.fault(), 1);
         CHECKS.due("where()", x.where(), 0);
@@ -117,6 +124,30 @@ public final class HouseEdgesTest {
         CHECKS.due("night()", again.night(), 1);
         Told.tell(again, HOUSE);
         CHECKS.due("thing(0, 2)", again.thing(0, 2), 0);
+    }
+
+    /* Of larger houses told before, a faulty one among them, nothing is left. */
+    private static void nothingOfBefore() {
+        CHECKS.promise(3, "are the HOUSE from now on");
+        String[] texts = {"house cellar 1 damp 0;ring r plain places 9", HOUSE, HOUSE + ";want t in r at 1 night 1 pays 1;lost 5 at 5",
+            "house cellar 3 damp 9;ring p plain places 9;ring c plain places 2;ring a plain places 9;thing t plain in a at 8 size 1;"
+            + "thing u plain in p at 7 size 9;thing v plain in c at 0 size 1;door p 0 p 1"};
+        for (String text : texts) {
+            NightRound x = Told.house(Told.FULLEST);
+            x.night();
+            x.goes();
+            x.mostMeet();
+            x.look();
+            x.best(60);
+            Told.tell(x, Told.FULLEST);
+            x.hold(6);
+            x.look();
+            Told.tell(x, Told.FULLEST + ";");
+            Told.tell(x, text);
+            NightRound alone = Told.house(text);
+            CHECKS.due("answers of " + text, Twins.answers(x), Twins.answers(alone));
+            CHECKS.due("all of " + text, Twins.seen(x), Twins.seen(alone));
+        }
     }
 
     private static void refusedByNumber() {

@@ -225,6 +225,9 @@ public final class NightsEdgesTest {
         CHECKS.given("mostMeet() without doors", doorless, doorless.mostMeet(), -2);
         NightRound twoDoors = Told.house(start + ";door q 0 r 2;door q 3 r 2;door q 1 r 0");
         CHECKS.given("mostMeet(): all doors of two are counted", twoDoors, twoDoors.mostMeet(), 2);
+        CHECKS.given("mostMeet() asked again", most, most.mostMeet(), 34);
+        most.put(3, 0, 5);
+        CHECKS.given("mostMeet() when they don't any more", most, most.mostMeet(), 1);
     }
 
     private static void mostWithin60() {

@@ -83,6 +83,9 @@ public final class TextEdgesTest {
         fails(HOUSE + "ring r ", "plainplaces 3", FORM);
         for (int b : new int[] {0, 9, 10, 13, 31, 33, 64, 95, 127, 128, 160, 255}) {
             fails("house", (char) b + "cellar 1", FORM);
+            fails(HOUSE + RING, (char) b + ";ring q plain places 2", FORM);
+            fails(HOUSE + RING, "" + (char) b, FORM);
+            fails(HOUSE, (char) b + RING, FORM);
         }
     }
 
@@ -361,6 +364,9 @@ public final class TextEdgesTest {
                 }
                 fails(good + " ", tokens[i].equals(";") ? "0" : ";", FORM);
                 fails(good + "  ", tokens[i].matches("\\d+") ? "x" : "5", FORM);
+                if (tokens[i].matches("[a-z]{2,}")) {
+                    almost(good + " ", tokens[i]);
+                }
                 fails(good + " ", "?", FORM);
                 fails(good + " ", "0123", FORM);
                 fails(good + " ", "abcdefghi", FORM);
@@ -370,6 +376,17 @@ public final class TextEdgesTest {
             lines.append(good);
         }
         stands(lines.toString(), 1);
+    }
+
+    /** Another word in its stead: one letter another one, one less, one more. */
+    private static void almost(String good, String word) {
+        int last = word.length() - 1;
+        fails(good, "x" + word.substring(1), FORM);
+        fails(good, word.substring(0, last) + "x", FORM);
+        fails(good, word.substring(0, last), FORM);
+        fails(good, word.substring(1), FORM);
+        fails(good, word + "s", FORM);
+        fails(good, word.toUpperCase(), FORM);
     }
 
     private static void untold() {

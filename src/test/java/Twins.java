@@ -50,6 +50,28 @@ final class Twins {
         return row.toString();
     }
 
+    /** What is answered of a house in whatever state it is. */
+    static String answers(NightRound x) {
+        StringBuilder row = new StringBuilder("rings");
+        for (int r = 0; r < 4; r++) {
+            for (int p = 0; p < 9; p++) {
+                row.append(' ').append(x.ring(r, p)).append(' ').append(x.at(r, p)).append(' ').append(x.narrow(r, p));
+            }
+        }
+        row.append(" things");
+        for (int t = 0; t < 7; t++) {
+            row.append(' ').append(x.thing(t, 0)).append(' ').append(x.thing(t, 3)).append(' ').append(x.ahead(t)).append(' ').append(x.behind(t, 60))
+                .append(' ').append(x.steps(t, 200)).append(' ').append(x.holds(t, 0, 1, 9)).append(' ').append(x.putFor(t, 1, 9))
+                .append(' ').append(x.damp(t, 5, 20)).append(' ').append(x.meets(t, 0));
+        }
+        row.append(" all ").append(x.meeting()).append(' ').append(x.still()).append(' ').append(x.period()).append(' ').append(x.mostMeet())
+            .append(' ').append(x.toWiden()).append(' ').append(x.worstHeld(60)).append(' ').append(x.pays(60)).append(' ').append(x.best(60))
+            .append(' ').append(x.bestPays(60)).append(' ').append(x.kept()).append(' ').append(x.dampSteps(7, 60));
+        row.append(" box ").append(x.rules()).append(' ').append(x.ruleAt(0)).append(' ').append(x.there(0, 0)).append(' ').append(x.surely(0))
+            .append(' ').append(x.look()).append(' ').append(x.lookLeaves());
+        return row.toString();
+    }
+
     private static void addNow(StringBuilder row, NightRound x) {
         row.append(" now");
         for (int t = 0; t < x.size(4); t++) {
