@@ -1,11 +1,16 @@
+import java.io.IOException;
 import java.lang.reflect.Field;
 import java.lang.reflect.Method;
 import java.lang.reflect.Modifier;
+import java.nio.file.Files;
+import java.nio.file.Path;
+import java.util.ArrayList;
 import java.util.Arrays;
+import java.util.List;
 import java.util.Set;
 import java.util.TreeSet;
 
-/** The public face: all that the document names, and nothing else that is not private. */
+/** The public face: all that the document names, as it is written there, and nothing else that is not private. */
 public final class FaceTest {
     private static final Checks CHECKS = new Checks("FaceTest");
     private static final String FACE = "feed:int:5 house:int:1 fault:int:0 where:int:0 ring:int:2 thing:int:2 at:int:2 narrow:int:2 "
@@ -18,7 +23,7 @@ public final class FaceTest {
     private FaceTest() {
     }
 
-    public static void main(String[] args) {
+    public static void main(String[] args) throws IOException {
         Set<String> due = new TreeSet<>(Arrays.asList(FACE.split(" ")));
         Set<String> names = new TreeSet<>();
         for (Method m : NightRound.class.getDeclaredMethods()) {
@@ -36,6 +41,8 @@ public final class FaceTest {
             CHECKS.due(m.getName() + " bears a public name", isHidden && names.contains(m.getName()), false);
         }
         fields();
+        asWritten();
+        within(names);
         CHECKS.due("final", Modifier.isFinal(NightRound.class.getModifiers()), true);
         CHECKS.due("constructors", NightRound.class.getConstructors().length, 1);
         CHECKS.due("NONE", NightRound.NONE, -1);
@@ -48,6 +55,31 @@ public final class FaceTest {
             CHECKS.due("field " + f.getName(), isPublic ? f.getName().equals("NONE") : Modifier.isPrivate(f.getModifiers()), true);
             boolean isLoose = Modifier.isStatic(f.getModifiers()) && !Modifier.isFinal(f.getModifiers());
             CHECKS.due("static field " + f.getName() + " that changes", isLoose, false);
+        }
+    }
+
+    private static void asWritten() throws IOException {
+        List<String> written = new ArrayList<>();
+        for (String line : Files.readString(Path.of("src/main/java/NightRound.java")).split("\n")) {
+            if (line.startsWith("    public ")) {
+                written.add(line.trim().replaceAll(" \\{$", ";"));
+            }
+        }
+        List<String> face = new Document().face();
+        for (int i = 0; i < face.size(); i++) {
+            CHECKS.due("member " + i, i < written.size() ? written.get(i) : "none", face.get(i));
+        }
+        CHECKS.due("members", face.isEmpty() || written.size() == face.size(), true);
+    }
+
+    private static void within(Set<String> names) {
+        for (Class<?> c : NightRound.class.getDeclaredClasses()) {
+            CHECKS.due(c.getName() + " is private and static", Modifier.isPrivate(c.getModifiers()) && Modifier.isStatic(c.getModifiers()), true);
+            for (Method m : c.getDeclaredMethods()) {
+                CHECKS.due(m + " bears a public name", names.contains(m.getName()), false);
+            }
+            long own = Arrays.stream(c.getDeclaredFields()).filter(f -> !Modifier.isStatic(f.getModifiers())).count();
+            CHECKS.due("fields of " + c.getName() + ", at most 20", own <= 20, true);
         }
     }
 }

@@ -29,6 +29,7 @@ public final class LanguageTest {
         }
         CHECKS.due("classes, at most 12", text.split("\\bclass \\w+ \\{").length - 1 <= 12, true);
         methods(text.split("\n"));
+        making(text.split("\n"));
         CHECKS.end();
     }
 
@@ -43,6 +44,22 @@ public final class LanguageTest {
                 }
                 CHECKS.due("lines of " + lines[i].trim(), end - i <= 60, true);
                 CHECKS.due("parameters of " + lines[i].trim(), m.group(1).split(",").length <= 7, true);
+            }
+        }
+    }
+
+    /* No call makes anything: all rows are fields of what the constructor makes. */
+    private static void making(String[] lines) {
+        boolean isMaking = false;
+        for (String line : lines) {
+            if (line.equals("    public NightRound() {")) {
+                isMaking = true;
+            } else if (line.equals("    }")) {
+                isMaking = false;
+            }
+            if (line.matches(".*\\bnew \\w+[(\\[].*")) {
+                boolean isField = line.matches(" {8}(private )?(final )?[\\w\\[\\]]+ \\w+ = new .*;");
+                CHECKS.due(line.trim(), isMaking || isField || line.contains("throw new NoSuchElementException("), true);
             }
         }
     }
